@@ -7,15 +7,6 @@ import java.util.TreeSet;
 
 /** The public face: what the document lists is visible from outside, and nothing else. */
 public final class FaceTest {
-    private static int wrong = 0;
-
-    private static void due(String what, Object got, Object want) {
-        if (!got.equals(want)) {
-            wrong++;
-            System.out.println(what + " is " + got + ", due is " + want);
-        }
-    }
-
     private static String signature(Class<?>[] parameters) {
         StringBuilder text = new StringBuilder("(");
         for (Class<?> parameter : parameters) {
@@ -47,7 +38,7 @@ public final class FaceTest {
     }
 
     public static void main(String[] args) {
-        due("visible members", visibleMembers(), new TreeSet<>(Set.of(
+        Check.due("visible members", visibleMembers(), new TreeSet<>(Set.of(
                 "public static final int BAD",
                 "public static final int FULL",
                 "public new(int)",
@@ -63,15 +54,12 @@ public final class FaceTest {
                 "public int colourings(int)",
                 "public int flows(int)",
                 "public int acyclic()")));
-        due("class modifiers", Modifier.toString(GraphPolynomials.class.getModifiers()), "public final");
-        due("superclass", GraphPolynomials.class.getSuperclass(), Object.class);
-        due("interfaces", GraphPolynomials.class.getInterfaces().length, 0);
-        due("nested classes", GraphPolynomials.class.getDeclaredClasses().length, 0);
-        due("BAD", GraphPolynomials.BAD, -1);
-        due("FULL", GraphPolynomials.FULL, -2);
-        System.out.println(wrong == 0 ? "the face is as due" : wrong + " parts of the face are not as due");
-        if (wrong != 0) {
-            System.exit(1);
-        }
+        Check.due("class modifiers", Modifier.toString(GraphPolynomials.class.getModifiers()), "public final");
+        Check.due("superclass", GraphPolynomials.class.getSuperclass(), Object.class);
+        Check.due("interfaces", GraphPolynomials.class.getInterfaces().length, 0);
+        Check.due("nested classes", GraphPolynomials.class.getDeclaredClasses().length, 0);
+        Check.due("BAD", GraphPolynomials.BAD, -1);
+        Check.due("FULL", GraphPolynomials.FULL, -2);
+        Check.finish();
     }
 }

@@ -8,17 +8,13 @@ import java.util.List;
 public final class ModelTest {
     private static final int RUNS = 150;
     private static final int CHANGES = 15;
+    private static final int FULL_RUNS = 60;
+    private static final int CALLS = 512;
 
-    private static int wrong = 0;
     private static long seed = 20261115L;
 
     private static void due(String call, long got, long want) {
-        if (got != want) {
-            wrong++;
-            if (wrong <= 20) {
-                System.out.println(call + " answered " + got + ", due is " + want);
-            }
-        }
+        Check.due(call, got, want);
     }
 
     // A fixed series, so that a failing run comes again.
@@ -103,37 +99,86 @@ public final class ModelTest {
         return sum;
     }
 
-    private static void compare(String name, GraphPolynomials g, int points, List<int[]> edges) {
-        long[][] polynomial = new long[9][9];
-        addPolynomial(edges, 0, 0, polynomial);
-        int parts = parts(points, edges);
-        int rank = points - parts;
-        due(name + "edges()", g.edges(), edges.size());
-        due(name + "parts()", g.parts(), parts);
-        int i = next(-1, 9);
-        int j = next(-1, 9);
-        boolean inside = i >= 0 && i <= 8 && j >= 0 && j <= 8;
-        due(name + "coefficient(" + i + ", " + j + ")", g.coefficient(i, j), inside ? polynomial[i][j] : 0);
-        due(name + "trees()", g.trees(), value(polynomial, 1, 1));
-        due(name + "forests()", g.forests(), value(polynomial, 2, 1));
-        due(name + "spanning()", g.spanning(), value(polynomial, 1, 2));
-        due(name + "acyclic()", g.acyclic(), value(polynomial, 2, 0));
-        for (int k = -1; k <= 7; k++) {
-            long count = power(-1, rank) * power(k, parts) * value(polynomial, 1 - k, 0);
-            due(name + "colourings(" + k + ")", g.colourings(k), k < 0 || k > 6 ? -1 : count);
+    /** What is due of a graph, read from its polynomial. */
+    private static final class Model {
+        final long[][] polynomial = new long[9][9];
+        final int edgeCount;
+        final int parts;
+        final int rank;
+
+        Model(int points, List<int[]> edges) {
+            addPolynomial(edges, 0, 0, polynomial);
+            edgeCount = edges.size();
+            parts = parts(points, edges);
+            rank = points - parts;
         }
-        for (int k = 0; k <= 5; k++) {
-            long count = power(-1, edges.size() - rank) * value(polynomial, 0, 1 - k);
-            due(name + "flows(" + k + ")", g.flows(k), k < 1 || k > 4 ? -1 : count);
+
+        long coefficient(int i, int j) {
+            return i >= 0 && i <= 8 && j >= 0 && j <= 8 ? polynomial[i][j] : 0;
+        }
+
+        long colourings(int k) {
+            return k < 0 || k > 6 ? -1 : power(-1, rank) * power(k, parts) * value(polynomial, 1 - k, 0);
+        }
+
+        long flows(int k) {
+            return k < 1 || k > 4 ? -1 : power(-1, edgeCount - rank) * value(polynomial, 0, 1 - k);
         }
     }
 
-    private static void compareEveryCoefficient(String name, GraphPolynomials g, List<int[]> edges) {
-        long[][] polynomial = new long[9][9];
-        addPolynomial(edges, 0, 0, polynomial);
+    private static void askPlain(String name, GraphPolynomials g, Model model, int question) {
+        switch (question) {
+            case 0 -> due(name + "edges()", g.edges(), model.edgeCount);
+            case 1 -> due(name + "parts()", g.parts(), model.parts);
+            case 2 -> due(name + "trees()", g.trees(), value(model.polynomial, 1, 1));
+            case 3 -> due(name + "forests()", g.forests(), value(model.polynomial, 2, 1));
+            case 4 -> due(name + "spanning()", g.spanning(), value(model.polynomial, 1, 2));
+            default -> due(name + "acyclic()", g.acyclic(), value(model.polynomial, 2, 0));
+        }
+    }
+
+    private static void askCoefficient(String name, GraphPolynomials g, Model model, int i, int j) {
+        due(name + "coefficient(" + i + ", " + j + ")", g.coefficient(i, j), model.coefficient(i, j));
+    }
+
+    private static void askColourings(String name, GraphPolynomials g, Model model, int k) {
+        due(name + "colourings(" + k + ")", g.colourings(k), model.colourings(k));
+    }
+
+    private static void askFlows(String name, GraphPolynomials g, Model model, int k) {
+        due(name + "flows(" + k + ")", g.flows(k), model.flows(k));
+    }
+
+    private static void askOne(String name, GraphPolynomials g, Model model) {
+        int question = next(0, 9);
+        if (question <= 5) {
+            askPlain(name, g, model, question);
+        } else if (question == 6) {
+            askColourings(name, g, model, next(-1, 7));
+        } else if (question == 7) {
+            askFlows(name, g, model, next(0, 5));
+        } else {
+            askCoefficient(name, g, model, next(-1, 9), next(-1, 9));
+        }
+    }
+
+    private static void askEach(String name, GraphPolynomials g, Model model) {
+        for (int question = 0; question <= 5; question++) {
+            askPlain(name, g, model, question);
+        }
+        askCoefficient(name, g, model, next(-1, 9), next(-1, 9));
+        for (int k = -1; k <= 7; k++) {
+            askColourings(name, g, model, k);
+        }
+        for (int k = 0; k <= 5; k++) {
+            askFlows(name, g, model, k);
+        }
+    }
+
+    private static void askEveryCoefficient(String name, GraphPolynomials g, Model model) {
         for (int i = 0; i <= 8; i++) {
             for (int j = 0; j <= 8; j++) {
-                due(name + "coefficient(" + i + ", " + j + ")", g.coefficient(i, j), polynomial[i][j]);
+                askCoefficient(name, g, model, i, j);
             }
         }
     }
@@ -163,22 +208,49 @@ public final class ModelTest {
         return more;
     }
 
+    private static int pointsOf(int given) {
+        return Math.max(1, Math.min(6, given));
+    }
+
+    /** Every answer after every change. */
+    private static void runByChanges(int run) {
+        int given = next(-1, 8);
+        int points = pointsOf(given);
+        GraphPolynomials g = new GraphPolynomials(given);
+        List<int[]> edges = new ArrayList<>();
+        for (int change = 0; change < CHANGES; change++) {
+            String name = "run " + run + ", change " + change + ": ";
+            edges = changed(name, g, points, edges);
+            askEach(name, g, new Model(points, edges));
+        }
+        askEveryCoefficient("run " + run + ", end: ", g, new Model(points, edges));
+    }
+
+    /** Calls of every kind, as many as an object is used for. */
+    private static void runToTheLastCall(int run) {
+        int given = next(-1, 8);
+        int points = pointsOf(given);
+        GraphPolynomials g = new GraphPolynomials(given);
+        List<int[]> edges = new ArrayList<>();
+        Model model = new Model(points, edges);
+        for (int call = 1; call <= CALLS; call++) {
+            String name = "full run " + run + ", call " + call + ": ";
+            if (next(0, 1) == 0) {
+                edges = changed(name, g, points, edges);
+                model = new Model(points, edges);
+            } else {
+                askOne(name, g, model);
+            }
+        }
+    }
+
     public static void main(String[] args) {
         for (int run = 0; run < RUNS; run++) {
-            int given = next(-1, 8);
-            int points = Math.max(1, Math.min(6, given));
-            GraphPolynomials g = new GraphPolynomials(given);
-            List<int[]> edges = new ArrayList<>();
-            for (int change = 0; change < CHANGES; change++) {
-                String name = "run " + run + ", change " + change + ": ";
-                edges = changed(name, g, points, edges);
-                compare(name, g, points, edges);
-            }
-            compareEveryCoefficient("run " + run + ", end: ", g, edges);
+            runByChanges(run);
         }
-        System.out.println(wrong == 0 ? "all answers are as due" : wrong + " answers are not as due");
-        if (wrong != 0) {
-            System.exit(1);
+        for (int run = 0; run < FULL_RUNS; run++) {
+            runToTheLastCall(run);
         }
+        Check.finish();
     }
 }

@@ -5,38 +5,12 @@ public final class PromisesTest {
     private static final int LEAST = Integer.MIN_VALUE;
     private static final int GREATEST = Integer.MAX_VALUE;
 
-    private static int wrong = 0;
-
     private static void due(String call, int got, int want) {
-        if (got != want) {
-            wrong++;
-            System.out.println(call + " answered " + got + ", due is " + want);
-        }
+        Check.due(call, got, want);
     }
 
-    /** A graph whose edges are given as pairs of ends, one after the other. */
     private static GraphPolynomials graph(int points, int... ends) {
-        GraphPolynomials made = new GraphPolynomials(points);
-        for (int at = 0; at < ends.length; at += 2) {
-            due("graph: add", made.add(ends[at], ends[at + 1]), at / 2 + 1);
-        }
-        return made;
-    }
-
-    private static GraphPolynomials triangle() {
-        return graph(3, 0, 1, 1, 2, 2, 0);
-    }
-
-    private static GraphPolynomials completeOnFour() {
-        return graph(4, 0, 1, 0, 2, 0, 3, 1, 2, 1, 3, 2, 3);
-    }
-
-    private static GraphPolynomials manyLoops() {
-        return graph(1, 0, 0, 0, 0, 0, 0, 0, 0, 0, 0, 0, 0, 0, 0, 0, 0);
-    }
-
-    private static GraphPolynomials manyParallels() {
-        return graph(2, 0, 1, 1, 0, 0, 1, 1, 0, 0, 1, 1, 0, 0, 1, 1, 0);
+        return Graphs.graph(points, ends);
     }
 
     private static void promise1NewObject() {
@@ -95,7 +69,7 @@ public final class PromisesTest {
         GraphPolynomials empty = new GraphPolynomials(4);
         due("P3: drop(0) without edges", empty.drop(0), BAD);
         int[] none = {LEAST, -1, 3, 8, GREATEST};
-        GraphPolynomials g = triangle();
+        GraphPolynomials g = Graphs.triangle();
         for (int i : none) {
             due("P3: drop(" + i + ")", g.drop(i), BAD);
         }
@@ -127,7 +101,7 @@ public final class PromisesTest {
         GraphPolynomials empty = new GraphPolynomials(4);
         due("P4: merge(0) without edges", empty.merge(0), BAD);
         int[] none = {LEAST, -1, 3, 8, GREATEST};
-        GraphPolynomials g = triangle();
+        GraphPolynomials g = Graphs.triangle();
         for (int i : none) {
             due("P4: merge(" + i + ")", g.merge(i), BAD);
         }
@@ -189,12 +163,12 @@ public final class PromisesTest {
 
     private static void promise6Parts() {
         due("P6: no edges", new GraphPolynomials(6).parts(), 6);
-        due("P6: one point", manyLoops().parts(), 1);
+        due("P6: one point", Graphs.eightLoops().parts(), 1);
         due("P6: loops join nothing", graph(3, 0, 0, 2, 2).parts(), 3);
         due("P6: parallels join once", graph(3, 0, 1, 1, 0).parts(), 2);
-        due("P6: a path", graph(6, 0, 1, 1, 2, 2, 3, 3, 4, 4, 5).parts(), 1);
+        due("P6: a path", Graphs.pathOfSix().parts(), 1);
         due("P6: a path out of order", graph(6, 4, 5, 0, 1, 3, 2, 5, 0, 2, 1).parts(), 1);
-        due("P6: two triangles", graph(6, 0, 1, 1, 2, 2, 0, 3, 4, 4, 5, 5, 3).parts(), 2);
+        due("P6: two triangles", Graphs.twoTriangles().parts(), 2);
         due("P6: two joined by one", graph(6, 0, 1, 2, 3, 3, 1).parts(), 3);
     }
 
@@ -214,68 +188,68 @@ public final class PromisesTest {
         dueCoefficients("no edges", new GraphPolynomials(6), 0, 0, 1);
         dueCoefficients("a bridge", graph(2, 0, 1), 1, 0, 1);
         dueCoefficients("a loop", graph(2, 1, 1), 0, 1, 1);
-        dueCoefficients("eight loops", manyLoops(), 0, 8, 1);
-        dueCoefficients("five bridges", graph(6, 0, 1, 1, 2, 2, 3, 3, 4, 4, 5), 5, 0, 1);
-        dueCoefficients("a triangle", triangle(), 2, 0, 1, 1, 0, 1, 0, 1, 1);
-        dueCoefficients("eight parallels", manyParallels(),
+        dueCoefficients("eight loops", Graphs.eightLoops(), 0, 8, 1);
+        dueCoefficients("five bridges", Graphs.pathOfSix(), 5, 0, 1);
+        dueCoefficients("a triangle", Graphs.triangle(), 2, 0, 1, 1, 0, 1, 0, 1, 1);
+        dueCoefficients("eight parallels", Graphs.eightParallels(),
                 1, 0, 1, 0, 1, 1, 0, 2, 1, 0, 3, 1, 0, 4, 1, 0, 5, 1, 0, 6, 1, 0, 7, 1);
-        dueCoefficients("the complete graph on four points", completeOnFour(),
+        dueCoefficients("the complete graph on four points", Graphs.completeOnFour(),
                 3, 0, 1, 2, 0, 3, 1, 0, 2, 1, 1, 4, 0, 1, 2, 0, 2, 3, 0, 3, 1);
         dueCoefficients("two parts, a bridge and a loop", graph(5, 0, 1, 1, 0, 2, 3, 4, 4),
                 2, 1, 1, 1, 2, 1);
         int[] outside = {LEAST, -1, 9, 32, GREATEST};
         for (int at : outside) {
-            due("P7: coefficient(" + at + ", 0)", triangle().coefficient(at, 0), 0);
-            due("P7: coefficient(0, " + at + ")", triangle().coefficient(0, at), 0);
-            due("P7: coefficient(" + at + ", " + at + ")", triangle().coefficient(at, at), 0);
+            due("P7: coefficient(" + at + ", 0)", Graphs.triangle().coefficient(at, 0), 0);
+            due("P7: coefficient(0, " + at + ")", Graphs.triangle().coefficient(0, at), 0);
+            due("P7: coefficient(" + at + ", " + at + ")", Graphs.triangle().coefficient(at, at), 0);
         }
     }
 
     private static void promise8Trees() {
         due("P8: no edges", new GraphPolynomials(6).trees(), 1);
-        due("P8: a triangle", triangle().trees(), 3);
-        due("P8: the complete graph on four points", completeOnFour().trees(), 16);
-        due("P8: eight loops", manyLoops().trees(), 1);
-        due("P8: eight parallels", manyParallels().trees(), 8);
-        due("P8: two triangles, apart", graph(6, 0, 1, 1, 2, 2, 0, 3, 4, 4, 5, 5, 3).trees(), 9);
-        due("P8: a circle of six", graph(6, 0, 1, 1, 2, 2, 3, 3, 4, 4, 5, 5, 0).trees(), 6);
+        due("P8: a triangle", Graphs.triangle().trees(), 3);
+        due("P8: the complete graph on four points", Graphs.completeOnFour().trees(), 16);
+        due("P8: eight loops", Graphs.eightLoops().trees(), 1);
+        due("P8: eight parallels", Graphs.eightParallels().trees(), 8);
+        due("P8: two triangles, apart", Graphs.twoTriangles().trees(), 9);
+        due("P8: a circle of six", Graphs.circleOfSix().trees(), 6);
     }
 
     private static void promise9Forests() {
         due("P9: no edges", new GraphPolynomials(6).forests(), 1);
-        due("P9: a triangle", triangle().forests(), 7);
-        due("P9: the complete graph on four points", completeOnFour().forests(), 38);
-        due("P9: eight loops", manyLoops().forests(), 1);
-        due("P9: eight parallels", manyParallels().forests(), 9);
-        due("P9: two triangles, apart", graph(6, 0, 1, 1, 2, 2, 0, 3, 4, 4, 5, 5, 3).forests(), 49);
-        due("P9: a path of six", graph(6, 0, 1, 1, 2, 2, 3, 3, 4, 4, 5).forests(), 32);
+        due("P9: a triangle", Graphs.triangle().forests(), 7);
+        due("P9: the complete graph on four points", Graphs.completeOnFour().forests(), 38);
+        due("P9: eight loops", Graphs.eightLoops().forests(), 1);
+        due("P9: eight parallels", Graphs.eightParallels().forests(), 9);
+        due("P9: two triangles, apart", Graphs.twoTriangles().forests(), 49);
+        due("P9: a path of six", Graphs.pathOfSix().forests(), 32);
     }
 
     private static void promise10Spanning() {
         due("P10: no edges", new GraphPolynomials(6).spanning(), 1);
-        due("P10: a triangle", triangle().spanning(), 4);
-        due("P10: the complete graph on four points", completeOnFour().spanning(), 38);
-        due("P10: eight loops", manyLoops().spanning(), 256);
-        due("P10: eight parallels", manyParallels().spanning(), 255);
-        due("P10: two triangles, apart", graph(6, 0, 1, 1, 2, 2, 0, 3, 4, 4, 5, 5, 3).spanning(), 16);
-        due("P10: a path of six", graph(6, 0, 1, 1, 2, 2, 3, 3, 4, 4, 5).spanning(), 1);
+        due("P10: a triangle", Graphs.triangle().spanning(), 4);
+        due("P10: the complete graph on four points", Graphs.completeOnFour().spanning(), 38);
+        due("P10: eight loops", Graphs.eightLoops().spanning(), 256);
+        due("P10: eight parallels", Graphs.eightParallels().spanning(), 255);
+        due("P10: two triangles, apart", Graphs.twoTriangles().spanning(), 16);
+        due("P10: a path of six", Graphs.pathOfSix().spanning(), 1);
     }
 
     private static void promise11Colourings() {
         for (int k = 0; k <= 6; k++) {
             due("P11: no edges, " + k, new GraphPolynomials(6).colourings(k), k * k * k * k * k * k);
             due("P11: one point, " + k, new GraphPolynomials(1).colourings(k), k);
-            due("P11: a triangle, " + k, triangle().colourings(k), k * (k - 1) * (k - 2));
-            due("P11: the complete graph on four points, " + k, completeOnFour().colourings(k),
+            due("P11: a triangle, " + k, Graphs.triangle().colourings(k), k * (k - 1) * (k - 2));
+            due("P11: the complete graph on four points, " + k, Graphs.completeOnFour().colourings(k),
                     k * (k - 1) * (k - 2) * (k - 3));
-            due("P11: eight parallels, " + k, manyParallels().colourings(k), k * (k - 1));
-            due("P11: eight loops, " + k, manyLoops().colourings(k), 0);
+            due("P11: eight parallels, " + k, Graphs.eightParallels().colourings(k), k * (k - 1));
+            due("P11: eight loops, " + k, Graphs.eightLoops().colourings(k), 0);
             due("P11: a loop elsewhere, " + k, graph(6, 5, 5).colourings(k), 0);
         }
         int[] outside = {LEAST, -1, 7, GREATEST};
         for (int k : outside) {
-            due("P11: colourings(" + k + ")", triangle().colourings(k), BAD);
-            due("P11: colourings(" + k + ") with a loop", manyLoops().colourings(k), BAD);
+            due("P11: colourings(" + k + ")", Graphs.triangle().colourings(k), BAD);
+            due("P11: colourings(" + k + ") with a loop", Graphs.eightLoops().colourings(k), BAD);
         }
     }
 
@@ -284,20 +258,20 @@ public final class PromisesTest {
             due("P12: no edges, " + k, new GraphPolynomials(6).flows(k), 1);
             due("P12: a bridge, " + k, graph(2, 0, 1).flows(k), 0);
             due("P12: a loop, " + k, graph(6, 5, 5).flows(k), k - 1);
-            due("P12: a triangle, " + k, triangle().flows(k), k - 1);
+            due("P12: a triangle, " + k, Graphs.triangle().flows(k), k - 1);
             due("P12: a triangle with one edge turned, " + k, graph(3, 0, 1, 1, 2, 0, 2).flows(k), k - 1);
             due("P12: three parallels, " + k, graph(2, 0, 1, 0, 1, 1, 0).flows(k), (k - 1) * (k - 2));
-            due("P12: the complete graph on four points, " + k, completeOnFour().flows(k),
+            due("P12: the complete graph on four points, " + k, Graphs.completeOnFour().flows(k),
                     (k - 1) * (k - 2) * (k - 3));
         }
-        due("P12: eight loops, 4", manyLoops().flows(4), 6561);
-        due("P12: eight loops, 2", manyLoops().flows(2), 1);
-        due("P12: eight loops, 1", manyLoops().flows(1), 0);
-        due("P12: eight parallels, 4", manyParallels().flows(4), 1641);
-        due("P12: eight parallels, 3", manyParallels().flows(3), 86);
+        due("P12: eight loops, 4", Graphs.eightLoops().flows(4), 6561);
+        due("P12: eight loops, 2", Graphs.eightLoops().flows(2), 1);
+        due("P12: eight loops, 1", Graphs.eightLoops().flows(1), 0);
+        due("P12: eight parallels, 4", Graphs.eightParallels().flows(4), 1641);
+        due("P12: eight parallels, 3", Graphs.eightParallels().flows(3), 86);
         int[] outside = {LEAST, -1, 0, 5, GREATEST};
         for (int k : outside) {
-            due("P12: flows(" + k + ")", triangle().flows(k), BAD);
+            due("P12: flows(" + k + ")", Graphs.triangle().flows(k), BAD);
             due("P12: flows(" + k + ") without edges", new GraphPolynomials(2).flows(k), BAD);
         }
     }
@@ -307,14 +281,14 @@ public final class PromisesTest {
         due("P13: a bridge", graph(2, 0, 1).acyclic(), 2);
         due("P13: a loop", graph(2, 1, 1).acyclic(), 0);
         due("P13: a loop beside a bridge", graph(3, 0, 1, 2, 2).acyclic(), 0);
-        due("P13: a triangle", triangle().acyclic(), 6);
+        due("P13: a triangle", Graphs.triangle().acyclic(), 6);
         due("P13: a triangle with one edge turned", graph(3, 0, 1, 1, 2, 0, 2).acyclic(), 6);
-        due("P13: the complete graph on four points", completeOnFour().acyclic(), 24);
-        due("P13: eight parallels", manyParallels().acyclic(), 2);
-        due("P13: a circle of six", graph(6, 0, 1, 1, 2, 2, 3, 3, 4, 4, 5, 5, 0).acyclic(), 62);
+        due("P13: the complete graph on four points", Graphs.completeOnFour().acyclic(), 24);
+        due("P13: eight parallels", Graphs.eightParallels().acyclic(), 2);
+        due("P13: a circle of six", Graphs.circleOfSix().acyclic(), 62);
         due("P13: a circle of six, otherwise numbered",
                 graph(6, 0, 3, 3, 1, 1, 5, 5, 2, 2, 4, 4, 0).acyclic(), 62);
-        due("P13: two triangles, apart", graph(6, 0, 1, 1, 2, 2, 0, 3, 4, 4, 5, 5, 3).acyclic(), 36);
+        due("P13: two triangles, apart", Graphs.twoTriangles().acyclic(), 36);
     }
 
     public static void main(String[] args) {
@@ -331,9 +305,6 @@ public final class PromisesTest {
         promise11Colourings();
         promise12Flows();
         promise13Acyclic();
-        System.out.println(wrong == 0 ? "all answers are as due" : wrong + " answers are not as due");
-        if (wrong != 0) {
-            System.exit(1);
-        }
+        Check.finish();
     }
 }
