@@ -11,7 +11,11 @@ final class Check {
     /** Runs a test; what it finds wrong is shown under its title. */
     static void test(String title, Runnable body) {
         under = title + ": ";
-        body.run();
+        try {
+            body.run();
+        } catch (RuntimeException thrown) {
+            due("a call", thrown, "no exception");
+        }
         under = "";
     }
 
